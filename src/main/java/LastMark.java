@@ -1570,6 +1570,8 @@ public final class LastMark {
         /** How many last cells are told apart: one, if the law doesn't look at them. */
         private int width = 1;
         private int startRank = 0;
+        /** How far the place behind a stroke lies from that ahead of it, by the cell drawn. */
+        private final int[] leaps = new int[MOST_CELLS];
         /** By the cells drawn: the ranks of last cells with which they can come about, as bits. */
         private int[] arrived = new int[0];
         /** By the cells drawn and the rank of the last one: what may be drawn, and what it is worth. */
@@ -1581,9 +1583,9 @@ public final class LastMark {
         private final int[] odds = new int[MOST_CELLS];
         private final int[] steps = new int[MOST_STROKES];
         private int length = 0;
-        private boolean tallied = false;
         final long[] totals = new long[MOST_STROKES + 1];
-        long stuckRows = 0;
+        /** NONE until rows are counted. */
+        long stuckRows = NONE;
 
         Paths(Sheet blank, Permit[] permits) {
             sheet = blank;
@@ -1602,13 +1604,16 @@ public final class LastMark {
             width = sheet.lastMatters ? sheet.cells + 1 : 1;
             startRank = width == 1 ? 0 : page.last == NONE ? sheet.cells : page.last;
             aim = NONE;
-            tallied = false;
+            stuckRows = NONE;
             for (int c = 0; c < sheet.cells; c++) {
                 odds[c] = sheet.oddsOf(c, from);
             }
             permits[h].serve(sheet, page.habitOf(h));
             permits[g].serve(sheet, page.habitOf(g));
             makeRoom();
+            for (int c = 0; c < leaps.length; c++) {
+                leaps[c] = (width << c) + rankOf(c);
+            }
             arrived[from] = 1 << startRank;
             for (int mask = from; mask <= sheet.all; mask = (mask + 1) | from) {
                 if (arrived[mask] != 0) {
@@ -1683,62 +1688,60 @@ public final class LastMark {
             }
         }
 
+        /** Last cells behind which the same ones may be drawn are worth the same: it is worked out once. */
         private void settle(int mask) {
             int ranks = arrived[mask];
+            int base = mask * width;
+            int open = NONE;
+            int value = 0;
             for (int rank = 0; rank < width; rank++) {
                 if ((ranks >> rank & 1) != 0) {
-                    int node = mask * width + rank;
-                    values[node] = worth(mask, moves[node]);
+                    if (moves[base + rank] != open) {
+                        open = moves[base + rank];
+                        value = worth(mask, open);
+                    }
+                    values[base + rank] = value;
                 }
             }
         }
 
         private int worth(int mask, int open) {
             switch (aim) {
-                case LONGEST: return most(mask, open & ~(1 << target));
-                case STUCK: return open == 0 ? 0 : least(mask, open);
-                case SOONEST: return (open >> target & 1) != 0 ? 1 : least(mask, open);
-                case SAFEST: return strokesTo(mask) == target ? 0 : least(mask, open);
-                default: return open == 0 ? 2 * target - 1 : played(mask, open);
+                case LONGEST: return most(mask * width, open & ~(1 << target));
+                case STUCK: return open == 0 ? 0 : least(mask * width, open);
+                case SOONEST: return (open >> target & 1) != 0 ? 1 : least(mask * width, open);
+                case SAFEST: return strokesTo(mask) == target ? 0 : least(mask * width, open);
+                default: return open == 0 ? 2 * target - 1 : played(mask * width, open);
             }
         }
 
-        private int most(int mask, int open) {
+        private int most(int base, int open) {
             int best = 0;
-            for (int c = 0; c < sheet.cells; c++) {
+            for (int c = 0; c < leaps.length && open >> c != 0; c++) {
                 if ((open >> c & 1) != 0) {
-                    best = Math.max(best, 1 + behind(mask, c));
+                    best = Math.max(best, 1 + values[base + leaps[c]]);
                 }
             }
             return best;
         }
 
-        private int least(int mask, int open) {
+        private int least(int base, int open) {
             int best = NEVER;
-            for (int c = 0; c < sheet.cells; c++) {
+            for (int c = 0; c < leaps.length && open >> c != 0; c++) {
                 if ((open >> c & 1) != 0) {
-                    best = Math.min(best, cost(c) + behind(mask, c));
+                    best = Math.min(best, (aim == SAFEST ? odds[c] : 1) + values[base + leaps[c]]);
                 }
             }
             return best;
-        }
-
-        private int cost(int c) {
-            return aim == SAFEST ? odds[c] : 1;
-        }
-
-        /** The worth of what comes behind a stroke. */
-        private int behind(int mask, int c) {
-            return values[(mask | 1 << c) * width + rankOf(c)];
         }
 
         /** One more than the strokes to come, below 0 if who is to draw loses. */
-        private int played(int mask, int open) {
+        private int played(int base, int open) {
             int soonestLost = -NEVER;
             int latestWon = 0;
-            for (int c = 0; c < sheet.cells; c++) {
+            for (int c = 0; c < leaps.length && open >> c != 0; c++) {
                 if ((open >> c & 1) != 0) {
-                    int theirs = behind(mask, c);
+                    int theirs = values[base + leaps[c]];
                     if (theirs < 0) {
                         soonestLost = Math.max(soonestLost, theirs);
                     } else {
@@ -1757,7 +1760,7 @@ public final class LastMark {
             int mask = from;
             int rank = startRank;
             for (int i = 0; i < steps.length; i++) {
-                int c = nextStep(mask, mask * width + rank);
+                int c = nextStep(mask, rank);
                 if (c == NONE) {
                     return;
                 }
@@ -1769,23 +1772,25 @@ public final class LastMark {
         }
 
         /** The first cell that a row of the right worth goes on by, or NONE at its end. */
-        private int nextStep(int mask, int node) {
+        private int nextStep(int mask, int rank) {
             if (aim == SOONEST && (mask >> target & 1) != 0 || aim == SAFEST && strokesTo(mask) == target) {
                 return NONE;
             }
-            for (int c = 0; c < sheet.cells; c++) {
-                if ((moves[node] >> c & 1) != 0 && leads(mask, c, values[node])) {
+            int base = mask * width;
+            int open = moves[base + rank];
+            for (int c = 0; c < leaps.length && open >> c != 0; c++) {
+                if ((open >> c & 1) != 0 && leads(base, c, values[base + rank])) {
                     return c;
                 }
             }
             return NONE;
         }
 
-        private boolean leads(int mask, int c, int value) {
+        private boolean leads(int base, int c, int value) {
             if (c == target && (aim == SOONEST || aim == LONGEST)) {
                 return aim == SOONEST;
             }
-            return cost(c) + behind(mask, c) == value;
+            return (aim == SAFEST ? odds[c] : 1) + values[base + leaps[c]] == value;
         }
 
         int step(int i) {
@@ -1794,9 +1799,10 @@ public final class LastMark {
 
         /** The first cell that leaves the other hand in a lost game. */
         int firstWinning() {
-            int open = moves[from * width + startRank];
-            for (int c = 0; c < sheet.cells; c++) {
-                if ((open >> c & 1) != 0 && behind(from, c) < 0) {
+            int base = from * width;
+            int open = moves[base + startRank];
+            for (int c = 0; c < leaps.length && open >> c != 0; c++) {
+                if ((open >> c & 1) != 0 && values[base + leaps[c]] < 0) {
                     return c;
                 }
             }
@@ -1837,10 +1843,9 @@ public final class LastMark {
 
         /** Counts rows by their strokes; twelve cells have fewer than 2^31 of them. */
         void tally() {
-            if (tallied) {
+            if (stuckRows != NONE) {
                 return;
             }
-            tallied = true;
             aim = NONE;
             stuckRows = 0;
             Arrays.fill(totals, 0L);
@@ -1853,22 +1858,32 @@ public final class LastMark {
             }
         }
 
+        /** Rows that can go on by the same cells are passed on together. */
         private void tallyAt(int mask) {
-            int strokes = strokesTo(mask);
+            int base = mask * width;
+            int open = 0;
+            int together = 0;
             for (int rank = 0; rank < width; rank++) {
                 if ((arrived[mask] >> rank & 1) != 0) {
-                    int node = mask * width + rank;
-                    totals[strokes] += values[node];
-                    stuckRows += moves[node] == 0 ? values[node] : 0;
-                    passOn(mask, moves[node], values[node]);
+                    if (moves[base + rank] != open) {
+                        passOn(base, open, together);
+                        open = moves[base + rank];
+                        together = 0;
+                    }
+                    together += values[base + rank];
+                    totals[strokesTo(mask)] += values[base + rank];
                 }
             }
+            passOn(base, open, together);
         }
 
-        private void passOn(int mask, int open, int rows) {
-            for (int c = 0; c < sheet.cells; c++) {
+        private void passOn(int base, int open, int together) {
+            if (open == 0) {
+                stuckRows += together;
+            }
+            for (int c = 0; c < leaps.length && open >> c != 0; c++) {
                 if ((open >> c & 1) != 0) {
-                    values[(mask | 1 << c) * width + rankOf(c)] += rows;
+                    values[base + leaps[c]] += together;
                 }
             }
         }
