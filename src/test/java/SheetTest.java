@@ -91,6 +91,12 @@ public final class SheetTest {
         Checks.tape(x, "sheet 1 1;  and what stands behind");
         Checks.due("the first n bytes alone", x.sheet(10), 1);
         Checks.due("the rest is gone", x.count(10), 0);
+        Checks.tape(x, "sheet 1 1;hands;");
+        Checks.due("a word cut by n", x.sheet(14), -32);
+        Checks.due("ends there", x.fault(1), 14);
+        Checks.tape(x, "sheet 1 12;");
+        Checks.due("a number cut by n", x.sheet(9), -32);
+        Checks.due("ends there", x.fault(1), 9);
     }
 
     private static void lines() {
@@ -139,6 +145,11 @@ public final class SheetTest {
         fault("hand;", 2, 0);
         fault("sheets 1 1;", 2, 0);
         fault("shee 1 1;", 2, 0);
+        fault("cheet 1 1;", 2, 0);
+        fault("sheet 1 1;zoo;", 2, 10);
+        fault("sheet 1 1;jazz;", 2, 10);
+        fault("sheet 1 1;bow 0 0;", 2, 10);
+        fault("sheet 1 1;rows 0 0;", 2, 10);
         fault("sheet;", 2, 5);
         fault("sheet 1;", 2, 7);
         fault("sheet 1 1", 2, 9);
