@@ -2,8 +2,14 @@
 final class Checks {
     private static int wrong = 0;
     private static int asked = 0;
+    /** The words of the document that answers are held to now; none where a test quotes none. */
+    private static String sentence = "";
 
     private Checks() {
+    }
+
+    static void about(String words) {
+        sentence = words;
     }
 
     static void due(String call, long got, long want) {
@@ -11,7 +17,8 @@ final class Checks {
         if (got != want) {
             wrong++;
             if (wrong <= 100) {
-                System.out.println(call + " answered " + got + ", due is " + want);
+                System.out.println(call + " answered " + got + ", due is " + want
+                    + (sentence.isEmpty() ? "" : " by \"" + sentence + "\""));
             }
         }
     }
@@ -54,10 +61,35 @@ final class Checks {
         return x;
     }
 
+    /** A text that is read without a fault: the object that has it. */
+    static LastMark reads(String text, int lines) {
+        LastMark x = new LastMark();
+        due("sheet of \"" + text + "\"", tell(x, text), lines);
+        due("fault(0) of \"" + text + "\"", x.fault(0), 0);
+        due("fault(1) of \"" + text + "\"", x.fault(1), -1);
+        return x;
+    }
+
+    /** A text that has a fault, so that the sheet stays the one of a new object. */
+    static void faulty(String text, int kind, int place) {
+        LastMark x = new LastMark();
+        due("sheet of \"" + text + "\"", tell(x, text), -30 - kind);
+        due("fault(0) of \"" + text + "\"", x.fault(0), kind);
+        due("fault(1) of \"" + text + "\"", x.fault(1), place);
+        due("cells behind \"" + text + "\"", x.count(2), 1);
+    }
+
     static void fill(LastMark x, int tray, int sort, long... numbers) {
         due("numbers(" + tray + ")", x.numbers(tray, sort, numbers.length), 0);
         for (int i = 0; i < numbers.length; i++) {
             x.write(tray, i, numbers[i]);
+        }
+    }
+
+    /** The answers of count(0), count(1) and so on. */
+    static void counts(LastMark x, String when, int... due) {
+        for (int what = 0; what < due.length; what++) {
+            due("count(" + what + ") " + when, x.count(what), due[what]);
         }
     }
 }
