@@ -728,7 +728,7 @@ public final class LastMark {
             int top = 0;
             for (int i = 0; i < codes.length; i++) {
                 int code = codes[i];
-                if (code < FIRST_SIGN) {
+                if (code < FIRST_FACT + FACTS) {
                     if (top < stack.length) {
                         stack[top] = code < FIRST_FACT ? code : facts[code - FIRST_FACT];
                         top++;

@@ -28,6 +28,9 @@ public final class EdgeFaultsTest {
         Checks.faulty("sheet 1 1;hands;", 2, 10);
         Checks.faulty("sheet 1 1;han;", 2, 10);
         Checks.faulty("sheet 1 1;han d;", 2, 10);
+        Checks.faulty("sheets 1 1;", 2, 0);
+        Checks.faulty("sheet 1 1;drawns 0;", 2, 10);
+        Checks.faulty("sheet 1 1;hand habits 3;", 2, 15);
         Checks.reads("sheet 1 1;may:1=1and 2=2or 3<4;", 2);
         Checks.faulty("sheet 1 1;may:1=1andnot 2=2;", 2, 17);
         Checks.reads("sheet 1 1;may:not(1)=1and[not 1=1];", 2);
@@ -149,6 +152,8 @@ public final class EdgeFaultsTest {
         Checks.faulty("1 1;", 2, 0);
         Checks.faulty("sheet 1 1;sheet 1 1;", 2, 10);
         Checks.faulty("sheet sheet 1 1;", 2, 6);
+        Checks.faulty("cheet 1 1;", 2, 0);
+        Checks.faulty("heet 1 1;", 2, 0);
         Checks.faulty("sheet 1 1;hand;sheet 2 2;", 2, 15);
     }
 

@@ -84,6 +84,10 @@ public final class EdgeLawsTest {
             Checks.due("by the same habit no more", left.stroke(0, c + 1), -13);
         }
         Checks.due("three are left", left.cell(11, 3), 3);
+        for (int n = 0; n <= 4; n++) {
+            LastMark cross = Checks.reads("sheet 3 3;hand;may:near=" + n + " or cell=1 or cell=3 or cell=5 or cell=7;", 3);
+            Checks.due("the middle behind " + n + " neighbours", cross.soonest(0, 4), n + 1);
+        }
         LastMark one = Checks.reads("sheet 1 2;drawn 0;odds:left;hand;may:left=1;", 5);
         Checks.due("one is left", one.cell(1, 3), 1);
         Checks.due("it may be drawn", one.stroke(0, 1), 0);
@@ -437,5 +441,8 @@ public final class EdgeLawsTest {
         Checks.due("nor the tray", x.judge(0, 0), -1);
         Checks.due("undo", x.undo(1), 0);
         Checks.due("no X", x.count(6), -1);
+        Checks.due("rub(0)", x.rub(0), 4);
+        Checks.due("undo", x.undo(1), 0);
+        Checks.counts(x, "rubbed, undone", 1, 4, 4, 2, 1, 0, -1, 0, 3, 0);
     }
 }

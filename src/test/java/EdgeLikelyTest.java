@@ -173,6 +173,9 @@ public final class EdgeLikelyTest {
         game(one, 1, 0, 0, 0, -1, 0);
         game(one, 1, 0, 1, 1, -1, 0);
         game(one, 1, 1, 0, 0, -1, 0);
+        game(one, 0, 1, 0, 1, 0, 1);
+        game(one, 1, 1, 1, 1, -1, 0);
+        game(one, 0, 1, 1, 0, -1, 1);
         LastMark halves = Checks.reads("sheet 1 5;hand;hand;may:hand=0 and cell<3 or hand=1 and cell>2;", 4);
         game(halves, 0, 1, 0, 1, 0, 5);
         game(halves, 1, 0, 0, 0, -1, 4);
@@ -214,6 +217,8 @@ public final class EdgeLikelyTest {
 
     private static void firstByWhichItWins() {
         Doc.promise(29, "The first CELL by which it wins.");
+        Checks.due("asked first of all", Checks.reads("sheet 1 3;hand;may:near=0;", 3).best(0, 0, 0), 1);
+        Checks.due("asked first of all", Checks.reads("sheet 1 3;hand;may:near=0;", 3).best(0, 0, 1), 0);
         game(Checks.reads("sheet 1 3;hand;may:near=0;", 3), 0, 0, 0, 1, 1, 1);
         game(Checks.reads("sheet 1 3;hand;may:near=0;", 3), 0, 0, 1, 1, 0, 2);
         game(Checks.reads("sheet 1 5;hand;may:near=0;", 3), 0, 0, 0, 1, 2, 3);
@@ -239,6 +244,7 @@ public final class EdgeLikelyTest {
 
     private static void asSoonAsCanBeOrAsLate() {
         Doc.promise(30, "How many STROKES there are in it, if who wins ends it as soon as can be, who loses as late.");
+        Checks.due("asked first of all", Checks.reads("sheet 1 3;hand;may:near=0;", 3).lasts(0, 0, 1), 2);
         Checks.due("none", Checks.reads("sheet 1 1;hand;drawn 0;", 3).lasts(0, 0, 0), 0);
         Checks.due("all twelve", Checks.reads("sheet 3 4;hand;", 2).lasts(0, 0, 0), 12);
         Checks.due("who wins ends it by one", Checks.reads("sheet 1 3;hand;may:near=0;", 3).lasts(0, 0, 0), 1);

@@ -300,7 +300,26 @@ public final class EdgeRefusedTest {
         add(all, "new: habit(0, 0)", x -> x.habit(0, 0), -11);
         add(all, "new: undo(1)", x -> x.undo(1), -3);
         add(all, "new: restore(0)", x -> x.restore(0), -5);
-        add(all, "new: stuck(0)", x -> x.stuck(0), -2);
+        add(all, "no hands: hand(0, 0)", x -> x.hand(0, 0), -2);
+        add(all, "no hands: longest(0, 0)", x -> x.longest(0, 0), -2);
+        add(all, "no hands: longWay(0, 0, 0)", x -> x.longWay(0, 0, 0), -2);
+        add(all, "no hands: stuck(0)", x -> x.stuck(0), -2);
+        add(all, "no hands: stuckWay(0, 0)", x -> x.stuckWay(0, 0), -2);
+        add(all, "no hands: soonest(0, 0)", x -> x.soonest(0, 0), -2);
+        add(all, "no hands: way(0, 0, 0)", x -> x.way(0, 0, 0), -2);
+        add(all, "no hands: reach(0)", x -> x.reach(0), -2);
+        add(all, "no hands: ahead(0, 0)", x -> x.ahead(0, 0), -2);
+        add(all, "no hands: rows(0, 0)", x -> x.rows(0, 0), -2);
+        add(all, "no hands: ends(0)", x -> x.ends(0), -2);
+        add(all, "no hands: safest(0, 0, 0)", x -> x.safest(0, 0, 0), -2);
+        add(all, "no hands: wins(0, 0, 0)", x -> x.wins(0, 0, 0), -2);
+        add(all, "no hands: best(0, 0, 0)", x -> x.best(0, 0, 0), -2);
+        add(all, "no hands: lasts(0, 0, 0)", x -> x.lasts(0, 0, 0), -2);
+        add(all, "no hands: habits(0, 0)", x -> x.habits(0, 0), -2);
+        add(all, "no hands: look(0, 0)", x -> x.look(0, 0), -2);
+        add(all, "no hands: chance(0, 0, 0, 0)", x -> x.chance(0, 0, 0, 0), -2);
+        add(all, "no hands: latest(0, 0)", x -> x.latest(0, 0), -2);
+        add(all, "no hands: lists(0, 0)", x -> x.lists(0, 0), -2);
         add(all, "new: write(0, 0, 0)", x -> x.write(0, 0, 0), -6);
         return all;
     }

@@ -426,6 +426,12 @@ public final class EdgeSeenTest {
         chance(walk, 0, 3, 5, 6);
         LastMark steps = Checks.reads("sheet 3 4;hand;may:far<3;", 3);
         chance(steps, 0, 2, 1111, 7560);
+        LastMark two = Checks.reads("sheet 1 4;hand;hand;may:cell<hand+3;", 4);
+        chance(two, 2, 1, 1, 3);
+        Checks.due("another hand", two.chance(1, 2, 1, 1), 4);
+        Checks.due("the first again", two.chance(0, 2, 1, 1), 3);
+        two.stroke(0, 0);
+        Checks.due("behind a stroke", two.chance(0, 2, 1, 1), 2);
     }
 
     private static void chanceOfNothing() {

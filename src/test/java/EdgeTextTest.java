@@ -93,6 +93,8 @@ public final class EdgeTextTest {
         Checks.faulty("sheet 1 1;odds:;", 2, 15);
         Checks.faulty("sheet 1 1;habit 1;", 2, 10);
         Checks.faulty("sheet 1 1;rows 0 0;", 2, 10);
+        Checks.faulty("sheet 1 1;bow 0 0;", 2, 10);
+        Checks.faulty("sheet 1 1;land;", 2, 10);
     }
 
     /** A text that ends behind a token is whole behind a ; alone. */
@@ -130,6 +132,9 @@ public final class EdgeTextTest {
         may("not not cell=2", 4);
         may("not [cell=0 or cell=3]", 6);
         may("[cell=0 or cell=1] and cell>0", 2);
+        may("cell>0 and [cell=0 or cell=1]", 2);
+        may("cell>0 and [cell=0]", 0);
+        may("cell<2 and not [cell=0 or cell=3] or cell=3", 10);
         may("[[cell=0]]", 1);
         may("1=1", 15);
         may("1=0", 0);
@@ -377,5 +382,19 @@ public final class EdgeTextTest {
         Checks.due("no may in the next text", x.hand(0, 1), 7);
         Checks.due("no odds in the next text", x.count(8), 3);
         Checks.due("no odds in the next text", x.cell(0, 3), 1);
+        longLawsAgain();
+    }
+
+    /** The longest law there can be is read by the same object as often as its calls allow. */
+    private static void longLawsAgain() {
+        StringBuilder law = new StringBuilder("sheet 1 1;hand;may:0");
+        while (law.length() < 894) {
+            law.append("+1");
+        }
+        LastMark x = new LastMark();
+        for (int i = 0; i < 10; i++) {
+            Checks.due("read again", Checks.tell(x, law + (i % 2 == 0 ? "=437;" : "<437;")), 3);
+            Checks.due("the law", x.hand(0, 1), 1 - i % 2);
+        }
     }
 }
